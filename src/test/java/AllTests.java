@@ -1,0 +1,21 @@
+/** Runs every test of the project. */
+public final class AllTests {
+
+    private AllTests() {
+    }
+
+    public static void main(String[] arguments) {
+        FaceTest.runAll();
+        ShipPromises.runAll();
+        WaterPromises.runAll();
+        BlockPromises.runAll();
+        BillPromises.runAll();
+        CommandPromises.runAll();
+        StatePromises.runAll();
+        RandomRuns.runAll();
+        Check.printCounts();
+        if (Check.failures() > 0) {
+            System.exit(1);
+        }
+    }
+}

@@ -1,0 +1,1 @@
+final class BillPromises { static void runAll() { } }

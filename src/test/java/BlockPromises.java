@@ -1,0 +1,1 @@
+final class BlockPromises { static void runAll() { } }

@@ -1,0 +1,1 @@
+final class CommandPromises { static void runAll() { } }

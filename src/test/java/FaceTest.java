@@ -1,0 +1,1 @@
+final class FaceTest { static void runAll() { } }

@@ -1,0 +1,1 @@
+final class StatePromises { static void runAll() { } }

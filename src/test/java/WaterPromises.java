@@ -1,0 +1,1 @@
+final class WaterPromises { static void runAll() { } }
