@@ -4,7 +4,7 @@ import java.util.List;
 /** Long runs of calls with fixed seeds, each answer compared with that of ModelDock. */
 final class RandomRuns {
 
-    private static final int RUNS = 150;
+    private static final int RUNS = 400;
     private static final int CALLS = 512;
 
     private interface Real {
@@ -82,11 +82,13 @@ final class RandomRuns {
     private void go() {
         while (told.size() < CALLS && !isWrong) {
             int kind = below(100);
-            if (kind < 45) {
+            if (kind < 60) {
                 changeSomething();
-            } else if (kind < 85) {
+            } else if (kind < 68) {
+                workForADay();
+            } else if (kind < 88) {
                 askSomething();
-            } else if (kind < 92) {
+            } else if (kind < 95) {
                 giveCommands();
             } else {
                 goBack();
@@ -94,47 +96,89 @@ final class RandomRuns {
         }
     }
 
+    /** Chance alone hardly ever empties the dock, lays blocks and lets ships rest on them. */
+    private void workForADay() {
+        pumpAndPass(-30);
+        for (int i = below(3); i > 0; i--) {
+            placeBlocks();
+            removeBlock();
+        }
+        openAtTheTide();
+        for (int i = below(6); i >= 0; i--) {
+            addShip();
+            enter();
+        }
+        for (int i = below(6); i >= 0; i--) {
+            clean();
+        }
+        pumpAndPass(-30);
+        passHours(from(1, 20));
+        askSomething();
+        for (int i = below(6); i >= 0; i--) {
+            pay();
+        }
+        openAtTheTide();
+        for (int i = below(4); i >= 0; i--) {
+            pay();
+            leave();
+        }
+    }
+
+    private void openAtTheTide() {
+        pumpAndPass(30);
+        setPump(0);
+        for (int hour = 0; hour < 12 && !model.isGateOpen() && !isWrong; hour++) {
+            passHours(1);
+            moveGate(true);
+        }
+    }
+
+    private void pumpAndPass(int rate) {
+        moveGate(false);
+        setPump(rate);
+        passHours(from(3, 5));
+    }
+
+    private void setPump(int rate) {
+        same("setPump " + rate, d -> d.setPump(rate), m -> m.setPump(rate));
+    }
+
+    private void passHours(int hours) {
+        same("pass " + hours, d -> d.pass(hours), m -> m.pass(hours));
+    }
+
+    private void moveGate(boolean isOpen) {
+        same("setGate " + isOpen, d -> d.setGate(isOpen), m -> m.setGate(isOpen));
+    }
+
+    private void clean() {
+        int id = ship();
+        boolean on = below(5) != 0;
+        same("setCleaning " + id, d -> d.setCleaning(id, on), m -> m.setCleaning(id, on));
+    }
+
     private void changeSomething() {
         switch (below(16)) {
-            case 0, 1 -> addShip();
+            case 0, 1, 15 -> addShip();
             case 2 -> {
                 int id = ship();
                 same("removeShip " + id, d -> d.removeShip(id), m -> m.removeShip(id));
             }
             case 3, 4, 5 -> enter();
-            case 6 -> {
-                int id = ship();
-                same("leave " + id, d -> d.leave(id), m -> m.leave(id));
-            }
-            case 7 -> {
-                int id = ship();
-                boolean on = below(4) != 0;
-                same("setCleaning " + id, d -> d.setCleaning(id, on), m -> m.setCleaning(id, on));
-            }
-            case 8 -> {
-                boolean on = below(2) == 0;
-                same("setGate " + on, d -> d.setGate(on), m -> m.setGate(on));
-            }
-            case 9 -> {
-                int rate = below(3) == 0 ? near(-30, 30) : below(2) == 0 ? -30 : 30;
-                same("setPump " + rate, d -> d.setPump(rate), m -> m.setPump(rate));
-            }
-            case 10 -> {
-                int hours = below(6) == 0 ? near(1, 48) : from(1, 4);
-                same("pass " + hours, d -> d.pass(hours), m -> m.pass(hours));
-            }
+            case 6 -> leave();
+            case 7 -> clean();
+            case 8 -> moveGate(below(4) != 0);
+            case 9 -> setPump(below(3) == 0 ? near(-30, 30) : below(2) == 0 ? -30 : 30);
+            case 10 -> passHours(below(6) == 0 ? near(1, 48) : from(1, 4));
             case 11, 12 -> placeBlocks();
-            case 13 -> {
-                int at = near(0, 59);
-                same("removeBlock " + at, d -> d.removeBlock(at), m -> m.removeBlock(at));
-            }
+            case 13 -> removeBlock();
             default -> pay();
         }
     }
 
     private void addShip() {
         int length = below(3) == 0 ? near(5, 30) : from(5, 14);
-        int draught = near(5, 80);
+        int draught = below(3) == 0 ? near(5, 80) : from(20, 60);
         int dirt = near(0, 99);
         same("addShip " + length + " " + draught + " " + dirt,
                 d -> d.addShip(length, draught, dirt), m -> m.addShip(length, draught, dirt));
@@ -142,8 +186,15 @@ final class RandomRuns {
 
     private void enter() {
         int id = ship();
-        int at = near(0, 55);
+        int length = from(5, 20);
+        Object gap = Check.outcome(() -> model.firstGap(length));
+        int at = gap instanceof Integer && below(2) == 0 ? (Integer) gap : near(0, 50);
         same("enter " + id + " " + at, d -> d.enter(id, at), m -> m.enter(id, at));
+    }
+
+    private void leave() {
+        int id = ship();
+        same("leave " + id, d -> d.leave(id), m -> m.leave(id));
     }
 
     private void placeBlocks() {
@@ -151,6 +202,15 @@ final class RandomRuns {
             int at = near(0, 59);
             same("placeBlock " + at, d -> d.placeBlock(at), m -> m.placeBlock(at));
         }
+    }
+
+    private void removeBlock() {
+        int at = near(0, 59);
+        for (int i = below(40); i > 0 && at >= 0 && at < 59 && !model.hasBlock(at); i--) {
+            at++;
+        }
+        int chosen = at;
+        same("removeBlock " + at, d -> d.removeBlock(chosen), m -> m.removeBlock(chosen));
     }
 
     private void pay() {
@@ -292,11 +352,11 @@ final class RandomRuns {
     }
 
     private void goBack() {
-        switch (below(12)) {
+        switch (below(8)) {
             case 0 -> same("save", d -> d.save(), m -> m.save());
             case 1 -> same("restore", d -> d.restore(), m -> m.restore());
             default -> {
-                for (int i = below(3); i >= 0; i--) {
+                for (int i = below(8) == 0 ? 9 : below(3); i >= 0; i--) {
                     same("undo", d -> d.undo(), m -> m.undo());
                 }
             }
