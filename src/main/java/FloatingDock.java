@@ -28,14 +28,14 @@ public final class FloatingDock {
     public int addShip(int length, int draught, int dirt)
             throws IllegalArgumentException, IllegalStateException {
         startChange();
-        int id = now.register(length, draught, dirt);
+        int id = now.ships.register(length, draught, dirt);
         keepChange();
         return id;
     }
 
     public int removeShip(int ship) throws NoSuchElementException, IllegalStateException {
         startChange();
-        int dirt = now.strike(ship);
+        int dirt = now.ships.strike(ship);
         keepChange();
         return dirt;
     }
@@ -66,38 +66,38 @@ public final class FloatingDock {
     }
 
     public int shipCount() {
-        return now.shipCount;
+        return now.ships.count;
     }
 
     public int shipAt(int place) throws IndexOutOfBoundsException {
-        if (place < 0 || place >= now.shipCount) {
+        if (place < 0 || place >= now.ships.count) {
             throw new IndexOutOfBoundsException("no such place");
         }
-        return now.ships[place].id;
+        return now.ships.rows[place].id;
     }
 
     public boolean isInDock(int ship) throws NoSuchElementException {
-        return now.known(ship).isDocked();
+        return now.ships.known(ship).isDocked();
     }
 
     public int positionOf(int ship) throws NoSuchElementException, IllegalStateException {
-        return now.docked(ship).position;
+        return now.ships.docked(ship).position;
     }
 
     public int dirtOf(int ship) throws NoSuchElementException {
-        return now.known(ship).dirt;
+        return now.ships.known(ship).dirt;
     }
 
     public int damageOf(int ship) throws NoSuchElementException {
-        return now.known(ship).damage;
+        return now.ships.known(ship).damage;
     }
 
     public int hoursAfloat(int ship) throws NoSuchElementException {
-        return now.known(ship).afloatHours;
+        return now.ships.known(ship).afloatHours;
     }
 
     public boolean isAfloat(int ship) throws NoSuchElementException {
-        return now.known(ship).floatsAt(now.waterLevel);
+        return now.ships.known(ship).floatsAt(now.waterLevel);
     }
 
     public int refusalReason() throws NoSuchElementException {
@@ -179,22 +179,22 @@ public final class FloatingDock {
     }
 
     public boolean hasBlock(int position) throws IllegalArgumentException {
-        Dock.checkPosition(position);
-        return now.blockIndex(position) != Dock.NONE;
+        Blocks.checkPosition(position);
+        return now.blocks.isAt(position);
     }
 
     public int blocksBeneath(int ship) throws NoSuchElementException {
-        return now.blocksByMetres(now.known(ship));
+        return now.blocks.beneathByMetres(now.ships.known(ship));
     }
 
     public int blocksBeneathByBlocks(int ship) throws NoSuchElementException {
-        return now.blocksByBlocks(now.known(ship));
+        return now.blocks.beneathByBlocks(now.ships.known(ship));
     }
 
     public int shipAtPosition(int position)
             throws IllegalArgumentException, NoSuchElementException {
-        Dock.checkPosition(position);
-        Ship ship = now.overlapping(position, 1);
+        Blocks.checkPosition(position);
+        Ship ship = now.ships.overlapping(position, 1);
         if (ship == null) {
             throw new NoSuchElementException("no ship is there");
         }
@@ -202,18 +202,18 @@ public final class FloatingDock {
     }
 
     public int firstGap(int length) throws IllegalArgumentException, NoSuchElementException {
-        Dock.checkGapLength(length);
-        return foundGap(now.gapByPositions(length));
+        Fleet.checkGapLength(length);
+        return foundGap(now.ships.gapByPositions(length));
     }
 
     public int firstGapByShips(int length)
             throws IllegalArgumentException, NoSuchElementException {
-        Dock.checkGapLength(length);
-        return foundGap(now.gapByShips(length));
+        Fleet.checkGapLength(length);
+        return foundGap(now.ships.gapByShips(length));
     }
 
     public int freeMetres() {
-        return Dock.METRES - now.takenMetres();
+        return Fleet.METRES - now.ships.takenMetres();
     }
 
     public int mostFitting() {
@@ -231,7 +231,7 @@ public final class FloatingDock {
     // ---- bills
 
     public int billOf(int ship) throws NoSuchElementException {
-        return now.known(ship).bill;
+        return now.ships.known(ship).bill;
     }
 
     public int pay(int ship, int coins)
@@ -243,7 +243,7 @@ public final class FloatingDock {
     }
 
     public int billTotal() {
-        return now.billsByShips();
+        return now.ships.billSum();
     }
 
     public int billTotalByAccount() {
@@ -255,7 +255,7 @@ public final class FloatingDock {
     }
 
     public int shipAtRank(int rank) throws IndexOutOfBoundsException {
-        Ship ship = now.ranked(rank);
+        Ship ship = now.ships.ranked(rank);
         if (ship == null) {
             throw new IndexOutOfBoundsException("no such rank");
         }
@@ -310,14 +310,14 @@ public final class FloatingDock {
 
     public int describeDock() {
         line.setLength(0);
-        for (int position = 0; position < Dock.METRES; position++) {
+        for (int position = 0; position < Fleet.METRES; position++) {
             line.append(now.signAt(position));
         }
         return line.length();
     }
 
     public int describeBill(int ship) throws NoSuchElementException {
-        Ship billed = now.known(ship);
+        Ship billed = now.ships.known(ship);
         line.setLength(0);
         line.append('#').append(billed.id);
         line.append(':').append(billed.bill);
@@ -339,23 +339,23 @@ public final class FloatingDock {
     }
 
     public double meanDirt() throws ArithmeticException {
-        if (now.shipCount == 0) {
+        if (now.ships.count == 0) {
             throw new ArithmeticException("there are no ships");
         }
-        return (double) now.dirtSum() / (double) now.shipCount;
+        return (double) now.ships.dirtSum() / (double) now.ships.count;
     }
 
     public float takenShare() {
-        return (float) now.takenMetres() / (float) Dock.METRES;
+        return (float) now.ships.takenMetres() / (float) Fleet.METRES;
     }
 
     public boolean isConsistent() {
         return Sea.agreesFrom(now.hours)
-                && now.blocksAgree()
-                && now.gapsAgree()
+                && now.blocks.waysAgree(now.ships)
+                && now.ships.gapsAgree()
                 && fitting.mostByTrying(now) == fitting.mostByTable(now)
-                && now.billsByShips() == now.billsByAccount()
-                && !now.hasOverlap();
+                && now.ships.billSum() == now.billsByAccount()
+                && !now.ships.hasOverlap();
     }
 
     public int undo() throws IllegalStateException {
@@ -369,7 +369,7 @@ public final class FloatingDock {
     public int save() {
         snapshot.copyFrom(now);
         hasSnapshot = true;
-        return now.shipCount;
+        return now.ships.count;
     }
 
     public int restore() throws IllegalStateException {
@@ -378,7 +378,7 @@ public final class FloatingDock {
         }
         now.copyFrom(snapshot);
         history.forget();
-        return now.shipCount;
+        return now.ships.count;
     }
 
     // ---- what the face shares
@@ -410,7 +410,7 @@ public final class FloatingDock {
     }
 
     private static int foundGap(int position) {
-        if (position == Dock.NONE) {
+        if (position == Fleet.NO_GAP) {
             throw new NoSuchElementException("there is no such gap");
         }
         return position;
@@ -437,7 +437,7 @@ public final class FloatingDock {
         int second = commands.numbers[1];
         switch (form) {
             case SHIP:
-                now.register(first, second, commands.numbers[2]);
+                now.ships.register(first, second, commands.numbers[2]);
                 break;
             case ENTER:
                 letIn(first, second);
@@ -574,6 +574,12 @@ public final class FloatingDock {
             return position != OUTSIDE && position < from + metres && from < position + length;
         }
 
+        /** A ship that comes or goes is not being cleaned. */
+        void moveTo(int newPosition) {
+            position = newPosition;
+            cleaned = false;
+        }
+
         boolean ranksBefore(Ship other) {
             if (bill != other.bill) {
                 return bill > other.bill;
@@ -585,13 +591,284 @@ public final class FloatingDock {
         }
     }
 
+    /** The ships in the ascending order of their ids, and the metres that they take. */
+    private static final class Fleet {
+
+        private static final int MOST_SHIPS = 8;
+        private static final int METRES = 60;
+        private static final int NO_GAP = -1;
+
+        private final Ship[] rows = new Ship[MOST_SHIPS];
+        private int count = 0;
+        private int nextId = 0;
+
+        Fleet() {
+            for (int i = 0; i < rows.length; i++) {
+                rows[i] = new Ship();
+            }
+        }
+
+        void copyFrom(Fleet other) {
+            for (int i = 0; i < other.count; i++) {
+                rows[i].copyFrom(other.rows[i]);
+            }
+            count = other.count;
+            nextId = other.nextId;
+        }
+
+        Ship known(int id) {
+            for (int i = 0; i < count; i++) {
+                if (rows[i].id == id) {
+                    return rows[i];
+                }
+            }
+            throw new NoSuchElementException("there is no such ship");
+        }
+
+        Ship docked(int id) {
+            Ship ship = known(id);
+            if (!ship.isDocked()) {
+                throw new IllegalStateException("the ship is not in the dock");
+            }
+            return ship;
+        }
+
+        int register(int length, int draught, int dirt) {
+            if (length < 5 || length > 30 || draught < 5 || draught > 80
+                    || dirt < 0 || dirt > 99) {
+                throw new IllegalArgumentException("a number is out of range");
+            }
+            if (count >= MOST_SHIPS) {
+                throw new IllegalStateException("there are 8 ships");
+            }
+            int id = nextId;
+            rows[count].begin(id, length, draught, dirt);
+            count++;
+            nextId++;
+            return id;
+        }
+
+        int strike(int id) {
+            Ship ship = known(id);
+            if (ship.isDocked() || ship.bill != 0) {
+                throw new IllegalStateException("the ship is in the dock or has a bill");
+            }
+            moveToEnd(ship);
+            count--;
+            return ship.dirt;
+        }
+
+        /** The row stays in the array behind the others, so that no row is made anew. */
+        private void moveToEnd(Ship ship) {
+            for (int i = 0; i + 1 < count; i++) {
+                if (rows[i] == ship) {
+                    rows[i] = rows[i + 1];
+                    rows[i + 1] = ship;
+                }
+            }
+        }
+
+        int dockedCount() {
+            int docked = 0;
+            for (int i = 0; i < count; i++) {
+                if (rows[i].isDocked()) {
+                    docked++;
+                }
+            }
+            return docked;
+        }
+
+        int takenMetres() {
+            int taken = 0;
+            for (int i = 0; i < count; i++) {
+                if (rows[i].isDocked()) {
+                    taken += rows[i].length;
+                }
+            }
+            return taken;
+        }
+
+        int dirtSum() {
+            int sum = 0;
+            for (int i = 0; i < count; i++) {
+                sum += rows[i].dirt;
+            }
+            return sum;
+        }
+
+        int billSum() {
+            int sum = 0;
+            for (int i = 0; i < count; i++) {
+                sum += rows[i].bill;
+            }
+            return sum;
+        }
+
+        /** Returns the ship at this rank, or null if there is no such rank. */
+        Ship ranked(int rank) {
+            for (int i = 0; i < count; i++) {
+                if (rankOf(rows[i]) == rank) {
+                    return rows[i];
+                }
+            }
+            return null;
+        }
+
+        private int rankOf(Ship ship) {
+            int rank = 0;
+            for (int i = 0; i < count; i++) {
+                if (rows[i].ranksBefore(ship)) {
+                    rank++;
+                }
+            }
+            return rank;
+        }
+
+        /** Returns a ship that takes one of these metres, or null if there is none. */
+        Ship overlapping(int from, int metres) {
+            for (int i = 0; i < count; i++) {
+                if (rows[i].overlaps(from, metres)) {
+                    return rows[i];
+                }
+            }
+            return null;
+        }
+
+        boolean hasOverlap() {
+            for (int i = 0; i < count; i++) {
+                for (int j = i + 1; j < count; j++) {
+                    if (rows[i].isDocked() && rows[j].overlaps(rows[i].position, rows[i].length)) {
+                        return true;
+                    }
+                }
+            }
+            return false;
+        }
+
+        static void checkGapLength(int length) {
+            if (length < 1 || length > METRES) {
+                throw new IllegalArgumentException("the length is out of range");
+            }
+        }
+
+        int gapByPositions(int length) {
+            for (int position = 0; position + length <= METRES; position++) {
+                if (overlapping(position, length) == null) {
+                    return position;
+                }
+            }
+            return NO_GAP;
+        }
+
+        /** Each ship in the way is passed for good, so each of them is met at most once. */
+        int gapByShips(int length) {
+            int position = 0;
+            for (int met = 0; met < count; met++) {
+                Ship ship = overlapping(position, length);
+                if (ship != null) {
+                    position = ship.end();
+                }
+            }
+            return position + length <= METRES ? position : NO_GAP;
+        }
+
+        boolean gapsAgree() {
+            for (int length = 1; length <= METRES; length++) {
+                if (gapByPositions(length) != gapByShips(length)) {
+                    return false;
+                }
+            }
+            return true;
+        }
+    }
+
+    /** The positions of the blocks, in no order. */
+    private static final class Blocks {
+
+        private static final int MOST_BLOCKS = 20;
+        private static final int NO_BLOCK = -1;
+
+        private final int[] positions = new int[MOST_BLOCKS];
+        private int count = 0;
+
+        void copyFrom(Blocks other) {
+            System.arraycopy(other.positions, 0, positions, 0, other.count);
+            count = other.count;
+        }
+
+        static void checkPosition(int position) {
+            if (position < 0 || position >= Fleet.METRES) {
+                throw new IllegalArgumentException("the position is out of range");
+            }
+        }
+
+        private int indexOf(int position) {
+            for (int i = 0; i < count; i++) {
+                if (positions[i] == position) {
+                    return i;
+                }
+            }
+            return NO_BLOCK;
+        }
+
+        boolean isAt(int position) {
+            return indexOf(position) != NO_BLOCK;
+        }
+
+        boolean isFull() {
+            return count >= MOST_BLOCKS;
+        }
+
+        void add(int position) {
+            if (!isFull()) {
+                positions[count] = position;
+                count++;
+            }
+        }
+
+        void remove(int position) {
+            int index = indexOf(position);
+            if (index != NO_BLOCK) {
+                count--;
+                positions[index] = positions[count];
+            }
+        }
+
+        int beneathByMetres(Ship ship) {
+            int found = 0;
+            if (ship.isDocked()) {
+                for (int metre = ship.position; metre < ship.end(); metre++) {
+                    if (isAt(metre)) {
+                        found++;
+                    }
+                }
+            }
+            return found;
+        }
+
+        int beneathByBlocks(Ship ship) {
+            int found = 0;
+            for (int i = 0; i < count; i++) {
+                if (ship.overlaps(positions[i], 1)) {
+                    found++;
+                }
+            }
+            return found;
+        }
+
+        boolean waysAgree(Fleet ships) {
+            for (int i = 0; i < ships.count; i++) {
+                if (beneathByMetres(ships.rows[i]) != beneathByBlocks(ships.rows[i])) {
+                    return false;
+                }
+            }
+            return true;
+        }
+    }
+
     /** Everything that changes can change, and the rules by which it changes. */
     private static final class Dock {
 
-        private static final int NONE = -1;
-        private static final int METRES = 60;
-        private static final int MOST_SHIPS = 8;
-        private static final int MOST_BLOCKS = 20;
         private static final int HIGHEST_LEVEL = 200;
         private static final int MOST_RATE = 30;
         private static final int GATE_DIFFERENCE = 20;
@@ -611,11 +888,8 @@ public final class FloatingDock {
         private static final int NOT_AFLOAT = 3;
         private static final int UNPAID = 4;
 
-        private final Ship[] ships = new Ship[MOST_SHIPS];
-        private int shipCount = 0;
-        private int nextId = 0;
-        private final int[] blocks = new int[MOST_BLOCKS];
-        private int blockCount = 0;
+        private final Fleet ships = new Fleet();
+        private final Blocks blocks = new Blocks();
         private int waterLevel = 100;
         private boolean gateOpen = true;
         private int pumpRate = 0;
@@ -623,20 +897,9 @@ public final class FloatingDock {
         private int charged = 0;
         private int paid = 0;
 
-        Dock() {
-            for (int i = 0; i < ships.length; i++) {
-                ships[i] = new Ship();
-            }
-        }
-
         void copyFrom(Dock other) {
-            for (int i = 0; i < other.shipCount; i++) {
-                ships[i].copyFrom(other.ships[i]);
-            }
-            shipCount = other.shipCount;
-            nextId = other.nextId;
-            System.arraycopy(other.blocks, 0, blocks, 0, other.blockCount);
-            blockCount = other.blockCount;
+            ships.copyFrom(other.ships);
+            blocks.copyFrom(other.blocks);
             waterLevel = other.waterLevel;
             gateOpen = other.gateOpen;
             pumpRate = other.pumpRate;
@@ -645,112 +908,37 @@ public final class FloatingDock {
             paid = other.paid;
         }
 
-        // the list of ships
-
-        Ship known(int id) {
-            for (int i = 0; i < shipCount; i++) {
-                if (ships[i].id == id) {
-                    return ships[i];
-                }
-            }
-            throw new NoSuchElementException("there is no such ship");
-        }
-
-        Ship docked(int id) {
-            Ship ship = known(id);
-            if (!ship.isDocked()) {
-                throw new IllegalStateException("the ship is not in the dock");
-            }
-            return ship;
-        }
-
-        int register(int length, int draught, int dirt) {
-            if (length < 5 || length > 30 || draught < 5 || draught > 80
-                    || dirt < 0 || dirt > 99) {
-                throw new IllegalArgumentException("a number is out of range");
-            }
-            if (shipCount >= MOST_SHIPS) {
-                throw new IllegalStateException("there are 8 ships");
-            }
-            int id = nextId;
-            ships[shipCount].begin(id, length, draught, dirt);
-            shipCount++;
-            nextId++;
-            return id;
-        }
-
-        int strike(int id) {
-            Ship ship = known(id);
-            if (ship.isDocked() || ship.bill != 0) {
-                throw new IllegalStateException("the ship is in the dock or has a bill");
-            }
-            moveToEnd(ship);
-            shipCount--;
-            return ship.dirt;
-        }
-
-        /** The row stays in the array behind the others, so that no row is made anew. */
-        private void moveToEnd(Ship ship) {
-            for (int i = 0; i + 1 < shipCount; i++) {
-                if (ships[i] == ship) {
-                    ships[i] = ships[i + 1];
-                    ships[i + 1] = ship;
-                }
-            }
-        }
-
-        Ship ranked(int rank) {
-            for (int i = 0; i < shipCount; i++) {
-                if (rankOf(ships[i]) == rank) {
-                    return ships[i];
-                }
-            }
-            return null;
-        }
-
-        private int rankOf(Ship ship) {
-            int rank = 0;
-            for (int i = 0; i < shipCount; i++) {
-                if (ships[i].ranksBefore(ship)) {
-                    rank++;
-                }
-            }
-            return rank;
-        }
-
-        int dirtSum() {
-            int sum = 0;
-            for (int i = 0; i < shipCount; i++) {
-                sum += ships[i].dirt;
-            }
-            return sum;
-        }
-
         // entering, leaving and cleaning
 
         int entryRefusal(int id, int position) {
-            Ship ship = known(id);
-            if (position < 0 || position > METRES - ship.length) {
+            Ship ship = ships.known(id);
+            if (position < 0 || position > Fleet.METRES - ship.length) {
                 throw new IllegalArgumentException("the ship would not lie within the dock");
             }
             if (ship.isDocked() || !gateOpen) {
                 throw new IllegalStateException("the ship is in the dock or the gate is closed");
             }
-            if (waterLevel < ship.draught + SPARE_DEPTH) {
+            if (!canEnterNow(ship)) {
                 return TOO_SHALLOW;
             }
-            return overlapping(position, ship.length) == null ? NO_REFUSAL : OVERLAP;
+            return ships.overlapping(position, ship.length) == null ? NO_REFUSAL : OVERLAP;
+        }
+
+        private boolean canEnterNow(Ship ship) {
+            return waterLevel >= ship.draught + SPARE_DEPTH;
+        }
+
+        boolean isWaiting(Ship ship) {
+            return !ship.isDocked() && canEnterNow(ship);
         }
 
         int moor(int id, int position) {
-            Ship ship = known(id);
-            ship.position = position;
-            ship.cleaned = false;
-            return dockedCount();
+            ships.known(id).moveTo(position);
+            return ships.dockedCount();
         }
 
         int leaveRefusal(int id) {
-            Ship ship = docked(id);
+            Ship ship = ships.docked(id);
             if (!gateOpen) {
                 throw new IllegalStateException("the gate is closed");
             }
@@ -761,24 +949,12 @@ public final class FloatingDock {
         }
 
         int castOff(int id) {
-            Ship ship = known(id);
-            ship.position = Ship.OUTSIDE;
-            ship.cleaned = false;
-            return dockedCount();
-        }
-
-        private int dockedCount() {
-            int count = 0;
-            for (int i = 0; i < shipCount; i++) {
-                if (ships[i].isDocked()) {
-                    count++;
-                }
-            }
-            return count;
+            ships.known(id).moveTo(Ship.OUTSIDE);
+            return ships.dockedCount();
         }
 
         boolean switchCleaning(int id, boolean isCleaned) {
-            Ship ship = docked(id);
+            Ship ship = ships.docked(id);
             boolean wasCleaned = ship.cleaned;
             ship.cleaned = isCleaned;
             return wasCleaned;
@@ -818,22 +994,22 @@ public final class FloatingDock {
 
         private int passHour() {
             hours++;
-            waterLevel = levelOneHourOn(waterLevel, hours);
+            waterLevel = levelInHour(hours, waterLevel);
             int removed = 0;
-            for (int i = 0; i < shipCount; i++) {
-                if (ships[i].isDocked()) {
-                    removed += spendHour(ships[i]);
+            for (int i = 0; i < ships.count; i++) {
+                if (ships.rows[i].isDocked()) {
+                    removed += spendHour(ships.rows[i]);
                 }
             }
             return removed;
         }
 
-        private int levelOneHourOn(int from, int hour) {
+        private int levelInHour(int hour, int levelBefore) {
             if (!gateOpen) {
-                return Math.max(0, Math.min(HIGHEST_LEVEL, from + pumpRate));
+                return Math.max(0, Math.min(HIGHEST_LEVEL, levelBefore + pumpRate));
             }
-            int difference = Sea.byFormula(hour) - from;
-            return from + Math.max(-Sea.STEP, Math.min(Sea.STEP, difference));
+            int difference = Sea.byFormula(hour) - levelBefore;
+            return levelBefore + Math.max(-Sea.STEP, Math.min(Sea.STEP, difference));
         }
 
         private int spendHour(Ship ship) {
@@ -842,7 +1018,7 @@ public final class FloatingDock {
                 charge(ship, HOUR_COINS);
                 return 0;
             }
-            int beneath = blocksByBlocks(ship);
+            int beneath = blocks.beneathByBlocks(ship);
             if (beneath < SAFE_BLOCKS) {
                 ship.damage++;
                 charge(ship, HOUR_COINS);
@@ -860,183 +1036,57 @@ public final class FloatingDock {
             }
             int level = waterLevel;
             for (int passed = 1; passed <= count; passed++) {
-                level = levelOneHourOn(level, hours + passed);
+                level = levelInHour(hours + passed, level);
             }
             return level;
         }
 
         int hoursToFloat(int id) {
-            Ship ship = known(id);
+            Ship ship = ships.known(id);
             int level = waterLevel;
             for (int passed = 0; passed <= FORESEEN_HOURS; passed++) {
                 if (ship.floatsAt(level)) {
                     return passed;
                 }
-                level = levelOneHourOn(level, hours + passed + 1);
+                level = levelInHour(hours + passed + 1, level);
             }
             throw new IllegalStateException("the ship would not be afloat in time");
         }
 
         // blocks
 
-        static void checkPosition(int position) {
-            if (position < 0 || position >= METRES) {
-                throw new IllegalArgumentException("the position is out of range");
-            }
-        }
-
-        int blockIndex(int position) {
-            for (int i = 0; i < blockCount; i++) {
-                if (blocks[i] == position) {
-                    return i;
-                }
-            }
-            return NONE;
-        }
-
         int addBlock(int position) {
-            checkPosition(position);
-            if (blockCount >= MOST_BLOCKS || blockIndex(position) != NONE) {
+            Blocks.checkPosition(position);
+            if (blocks.isFull() || blocks.isAt(position)) {
                 throw new IllegalStateException("there are 20 blocks or a block is there");
             }
             checkWorkAt(position);
-            blocks[blockCount] = position;
-            blockCount++;
-            return blockCount;
+            blocks.add(position);
+            return blocks.count;
         }
 
         int takeBlock(int position) {
-            checkPosition(position);
-            int index = blockIndex(position);
-            if (index == NONE) {
+            Blocks.checkPosition(position);
+            if (!blocks.isAt(position)) {
                 throw new NoSuchElementException("no block is there");
             }
             checkWorkAt(position);
-            blockCount--;
-            blocks[index] = blocks[blockCount];
-            return blockCount;
+            blocks.remove(position);
+            return blocks.count;
         }
 
         private void checkWorkAt(int position) {
-            if (waterLevel > WORKING_LEVEL || overlapping(position, 1) != null) {
+            if (waterLevel > WORKING_LEVEL || ships.overlapping(position, 1) != null) {
                 throw new UnsupportedOperationException("the level is too high or a ship is there");
             }
         }
 
-        int blocksByMetres(Ship ship) {
-            int count = 0;
-            if (ship.isDocked()) {
-                for (int metre = ship.position; metre < ship.end(); metre++) {
-                    if (blockIndex(metre) != NONE) {
-                        count++;
-                    }
-                }
-            }
-            return count;
-        }
-
-        int blocksByBlocks(Ship ship) {
-            int count = 0;
-            if (ship.isDocked()) {
-                int end = ship.end();
-                for (int i = 0; i < blockCount; i++) {
-                    if (blocks[i] >= ship.position && blocks[i] < end) {
-                        count++;
-                    }
-                }
-            }
-            return count;
-        }
-
-        boolean blocksAgree() {
-            for (int i = 0; i < shipCount; i++) {
-                if (blocksByMetres(ships[i]) != blocksByBlocks(ships[i])) {
-                    return false;
-                }
-            }
-            return true;
-        }
-
         char signAt(int position) {
-            Ship ship = overlapping(position, 1);
+            Ship ship = ships.overlapping(position, 1);
             if (ship != null) {
                 return (char) ('0' + ship.id % 10);
             }
-            return blockIndex(position) != NONE ? '^' : '.';
-        }
-
-        // gaps
-
-        static void checkGapLength(int length) {
-            if (length < 1 || length > METRES) {
-                throw new IllegalArgumentException("the length is out of range");
-            }
-        }
-
-        /** Returns a ship that takes one of these metres, or null if there is none. */
-        Ship overlapping(int from, int metres) {
-            for (int i = 0; i < shipCount; i++) {
-                if (ships[i].overlaps(from, metres)) {
-                    return ships[i];
-                }
-            }
-            return null;
-        }
-
-        int gapByPositions(int length) {
-            for (int position = 0; position + length <= METRES; position++) {
-                if (overlapping(position, length) == null) {
-                    return position;
-                }
-            }
-            return NONE;
-        }
-
-        /** Each ship in the way is passed for good, so each of them is met at most once. */
-        int gapByShips(int length) {
-            int position = 0;
-            for (int met = 0; met < shipCount; met++) {
-                Ship ship = overlapping(position, length);
-                if (ship != null) {
-                    position = ship.end();
-                }
-            }
-            return position + length <= METRES ? position : NONE;
-        }
-
-        boolean gapsAgree() {
-            for (int length = 1; length <= METRES; length++) {
-                if (gapByPositions(length) != gapByShips(length)) {
-                    return false;
-                }
-            }
-            return true;
-        }
-
-        int takenMetres() {
-            int taken = 0;
-            for (int i = 0; i < shipCount; i++) {
-                if (ships[i].isDocked()) {
-                    taken += ships[i].length;
-                }
-            }
-            return taken;
-        }
-
-        boolean hasOverlap() {
-            for (int i = 0; i < shipCount; i++) {
-                for (int j = i + 1; j < shipCount; j++) {
-                    if (ships[i].isDocked()
-                            && ships[j].overlaps(ships[i].position, ships[i].length)) {
-                        return true;
-                    }
-                }
-            }
-            return false;
-        }
-
-        boolean isWaiting(Ship ship) {
-            return !ship.isDocked() && ship.draught <= waterLevel - SPARE_DEPTH;
+            return blocks.isAt(position) ? '^' : '.';
         }
 
         // bills
@@ -1047,7 +1097,7 @@ public final class FloatingDock {
         }
 
         int takeCoins(int id, int coins) {
-            Ship ship = known(id);
+            Ship ship = ships.known(id);
             if (coins < 1 || coins > MOST_COINS) {
                 throw new IllegalArgumentException("the number of coins is out of range");
             }
@@ -1057,14 +1107,6 @@ public final class FloatingDock {
             ship.bill -= coins;
             paid += coins;
             return ship.bill;
-        }
-
-        int billsByShips() {
-            int sum = 0;
-            for (int i = 0; i < shipCount; i++) {
-                sum += ships[i].bill;
-            }
-            return sum;
         }
 
         int billsByAccount() {
@@ -1113,12 +1155,12 @@ public final class FloatingDock {
     /** Finds which of the waiting ships fit into the gaps of the dock together. */
     private static final class Fitting {
 
-        private final int[] gaps = new int[Dock.MOST_SHIPS + 1];
+        private final int[] gaps = new int[Fleet.MOST_SHIPS + 1];
         private int gapCount = 0;
-        private final int[] lengths = new int[Dock.MOST_SHIPS];
+        private final int[] lengths = new int[Fleet.MOST_SHIPS];
         private int waiting = 0;
-        private final int[] metresOf = new int[1 << Dock.MOST_SHIPS];
-        private final boolean[] fits = new boolean[1 << Dock.MOST_SHIPS];
+        private final int[] metresOf = new int[1 << Fleet.MOST_SHIPS];
+        private final boolean[] fits = new boolean[1 << Fleet.MOST_SHIPS];
 
         int mostByTrying(Dock dock) {
             survey(dock);
@@ -1151,16 +1193,16 @@ public final class FloatingDock {
 
         private void survey(Dock dock) {
             waiting = 0;
-            for (int i = 0; i < dock.shipCount; i++) {
-                if (dock.isWaiting(dock.ships[i])) {
-                    lengths[waiting] = dock.ships[i].length;
+            for (int i = 0; i < dock.ships.count; i++) {
+                if (dock.isWaiting(dock.ships.rows[i])) {
+                    lengths[waiting] = dock.ships.rows[i].length;
                     waiting++;
                 }
             }
             gapCount = 0;
             int free = 0;
-            for (int position = 0; position < Dock.METRES; position++) {
-                if (dock.overlapping(position, 1) == null) {
+            for (int position = 0; position < Fleet.METRES; position++) {
+                if (dock.ships.overlapping(position, 1) == null) {
                     free++;
                 } else {
                     addGap(free);
