@@ -27,6 +27,8 @@ final class BlockPromises {
         fittingByNumber();
         fittingByMetres();
         fittingAgainstOrders();
+        fittingIntoTheLastOfManyGaps();
+        fittingAskedAlone();
         waitingShips();
     }
 
@@ -256,6 +258,36 @@ final class BlockPromises {
         dock.enter(0, 10);
         dock.enter(1, 51);
         fitting(dock, 3, 21);
+    }
+
+    private static void fittingIntoTheLastOfManyGaps() {
+        FloatingDock dock = Docks.withShips(5, 5, 5, 5, 5, 5, 5, 18);
+        for (int ship = 0; ship < 7; ship++) {
+            dock.enter(ship, 1 + 6 * ship);
+        }
+        fitting(dock, 1, 18);
+        dock.enter(7, 42);
+        fitting(dock, 0, 0);
+        FloatingDock all = Docks.withShips(5, 5, 5, 5, 5, 5, 5, 5);
+        for (int ship = 0; ship < 8; ship++) {
+            all.enter(ship, 1 + 6 * ship);
+        }
+        fitting(all, 0, 0);
+    }
+
+    /** None of the three may lean on what another one of them has found. */
+    private static void fittingAskedAlone() {
+        FloatingDock dock = Docks.withShips(30, 20, 10);
+        Check.that("promise 36: asked first", dock.mostFittingByTable(), 3);
+        dock.enter(0, 0);
+        Check.that("promise 37: asked first", dock.mostFittingMetres(), 30);
+        dock.enter(1, 30);
+        Check.that("promise 36: asked again", dock.mostFittingByTable(), 1);
+        dock.enter(2, 50);
+        Check.that("promise 37: asked again", dock.mostFittingMetres(), 0);
+        dock.leave(1);
+        Check.that("promise 35: asked first", dock.mostFitting(), 1);
+        Check.that("promise 37: asked last", dock.mostFittingMetres(), 20);
     }
 
     private static void waitingShips() {

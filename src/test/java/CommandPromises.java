@@ -173,10 +173,14 @@ final class CommandPromises {
         Check.that("promise 46: as many positions as texts", due.length, texts.length);
         for (int i = 0; i < texts.length; i++) {
             error(texts[i], due[i]);
-            Check.that("promise 46: as the model, " + texts[i], ModelDock.errorOf(texts[i]), due[i]);
+            Check.that("promise 46: the model, " + texts[i], ModelDock.errorOf(texts[i]), due[i]);
         }
         error("open;open;open;open;open;open;open;open;open;open;open;open;", 60);
         error("pass 1;pass 1;pass 1;pass 1;pass 1;pass 1;pass 1;pass 1;pas~", 59);
+        FloatingDock dock = new FloatingDock();
+        Check.that("promise 45: a late error", Docks.run(dock, "open;close;pass 1;q"), BAD_TEXT);
+        Check.that("promise 45: an early error", Docks.run(dock, "st;"), BAD_TEXT);
+        Check.that("promise 46: the early error", dock.errorPosition(), 2);
     }
 
     private static void fails(FloatingDock dock, String text, int due) {

@@ -15,6 +15,8 @@ final class ShipPromises {
         newObject();
         addShip();
         addShipWrongly();
+        addShipAfterOthers();
+        eightShips();
         removeShip();
         enter();
         enterWrongly();
@@ -73,6 +75,42 @@ final class ShipPromises {
         Docks.refuses("promise 2: wrong and a ninth", dock, ARGUMENT, () -> dock.addShip(4, 5, 0));
         dock.removeShip(3);
         Check.that("promise 2: no id for the ninth", dock.addShip(5, 5, 0), 8);
+    }
+
+    /** Nothing of a ship that is gone, by removing or restoring, may be left to a later one. */
+    private static void addShipAfterOthers() {
+        FloatingDock dock = Docks.withBlocks(10, 11);
+        dock.save();
+        Docks.addShips(dock, 10, 10);
+        dock.enter(0, 0);
+        dock.enter(1, 10);
+        dock.setCleaning(1, true);
+        Docks.drain(dock);
+        Check.that("promise 2: an old ship", Docks.bill(dock, 0), "#0:6/0!1_");
+        dock.restore();
+        Check.that("promise 34: nothing is taken", dock.freeMetres(), 60);
+        Docks.addShips(dock, 10, 10);
+        Check.that("promise 2: a new ship", Docks.bill(dock, 0), "#0:0/0");
+        Check.that("promise 2: no hours afloat", dock.hoursAfloat(0), 0);
+        Check.that("promise 2: another new ship", Docks.bill(dock, 1), "#1:0/10");
+        Check.that("promise 4: the only one", dock.enter(1, 10), 1);
+        Check.that("promise 2: is not cleaned", dock.setCleaning(1, true), false);
+    }
+
+    private static void eightShips() {
+        FloatingDock dock = Docks.withShips(5, 5, 5, 5, 5, 5, 5, 5);
+        for (int ship = 0; ship < 8; ship++) {
+            Check.that("promise 4: ship " + ship, dock.enter(ship, 6 * ship), ship + 1);
+        }
+        Check.that("promise 34: 40 are taken", dock.freeMetres(), 20);
+        Check.that("promise 31: the last ship", dock.shipAtPosition(46), 7);
+        dock.pass(1);
+        Check.that("promise 40: 2 coins each", dock.billTotal(), 16);
+        Check.that("promise 43: the last rank", dock.shipAtRank(7), 0);
+        Check.that("promise 53: eight ships", dock.isConsistent(), true);
+        dock.pay(7, 2);
+        Check.that("promise 5: seven are left", dock.leave(7), 7);
+        Check.that("promise 3: the eighth", dock.removeShip(7), 70);
     }
 
     private static void removeShip() {

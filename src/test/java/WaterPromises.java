@@ -265,7 +265,19 @@ final class WaterPromises {
         Check.that("promise 25: 32 hours are left", dock.hoursUntilAfloat(0), 32);
         dock.pass(32);
         Check.that("promise 25: afloat at last", dock.hoursUntilAfloat(0), 0);
-        dock.undo();
-        Check.that("promise 25: at the open gate", dock.isGateOpen(), false);
+        FloatingDock tidal = Docks.withBlocks();
+        tidal.addShip(10, 80, 0);
+        tidal.enter(0, 0);
+        tidal.pass(4);
+        Check.that("promise 25: level at the hour 14", tidal.level(), 80);
+        Check.that("promise 25: the draught", tidal.hoursUntilAfloat(0), 0);
+        tidal.undo();
+        tidal.pass(3);
+        Check.that("promise 25: at the hour 13", tidal.hoursUntilAfloat(0), 1);
+        tidal.undo();
+        tidal.pass(2);
+        Check.that("promise 25: at the hour 12", tidal.hoursUntilAfloat(0), 2);
+        tidal.undo();
+        Check.that("promise 25: at the hour 10", tidal.hoursUntilAfloat(0), 0);
     }
 }
