@@ -101,7 +101,8 @@ final class CommandPromises {
 
     private static void severalCommands() {
         FloatingDock dock = new FloatingDock();
-        Check.that("promise 45: several", Docks.run(dock, "ship 10 20 3;enter 0@5;pass 2;pay 0+3"), 4);
+        Check.that("promise 45: several",
+                Docks.run(dock, "ship 10 20 3;enter 0@5;pass 2;pay 0+3"), 4);
         Check.that("promise 45: all carried out", Docks.picture(dock),
                 "1 true 140 5 160 3 1 1 #0 3 0 2 1 true5 ^");
         Check.that("promise 45: the text is empty", dock.append('o'), 1);
@@ -113,8 +114,8 @@ final class CommandPromises {
 
     private static void fullText() {
         FloatingDock dock = new FloatingDock();
-        Check.that("promise 45: 12 commands",
-                Docks.run(dock, "open;open;open;open;open;open;open;open;open;open;open;close"), 12);
+        String many = "open;open;open;open;open;open;open;open;open;open;open;close";
+        Check.that("promise 45: 12 commands", Docks.run(dock, many), 12);
         Check.that("promise 45: in their order", dock.isGateOpen(), false);
         String most = "ship 10 10 10;ship 11 11 11;ship 12 12 12;ship 13 13 13;open";
         Check.that("promise 45: as long as can be", most.length(), 60);
