@@ -92,6 +92,10 @@ final class StatePromises {
         dock.addShip(5, 5, 3);
         dock.enter(2, 0);
         Check.that("promise 51: three", dock.meanDirt(), 10.0 / 3.0);
+        dock.removeShip(0);
+        Check.that("promise 51: without the removed one", dock.meanDirt(), 1.5);
+        FloatingDock eight = Docks.withShips(5, 5, 5, 5, 5, 5, 5, 5);
+        Check.that("promise 51: eight", eight.meanDirt(), 35.0);
     }
 
     private static void takenShare() {
