@@ -12,6 +12,10 @@ public final class AllTests {
         BillPromises.runAll();
         CommandPromises.runAll();
         StatePromises.runAll();
+        NamedTests.runAll(ShipBoundaries.class, WaterBoundaries.class, BlockBoundaries.class,
+                BillBoundaries.class, CommandBoundaries.class, StateBoundaries.class,
+                TermBoundaries.class, HourBoundaries.class, ChangeBoundaries.class,
+                ExceptionBoundaries.class);
         RandomRuns.runAll();
         Check.printCounts();
         if (Check.failures() > 0) {

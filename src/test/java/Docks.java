@@ -32,6 +32,52 @@ final class Docks {
         dock.pass(3);
     }
 
+    /** With the gate closed and the pump at 0, at any hour. */
+    static FloatingDock atLevel(int level) {
+        FloatingDock dock = new FloatingDock();
+        dock.setGate(false);
+        pumpTo(dock, level);
+        return dock;
+    }
+
+    /** With the gate open, at an hour when the sea allows it; the level is from 20 to 180. */
+    static FloatingDock openAt(int level) {
+        FloatingDock dock = atLevel(level);
+        openAtTide(dock);
+        return dock;
+    }
+
+    /** The gate is closed already. */
+    static void pumpTo(FloatingDock dock, int level) {
+        while (dock.level() != level) {
+            dock.setPump(Math.max(-30, Math.min(30, level - dock.level())));
+            dock.pass(1);
+        }
+        dock.setPump(0);
+    }
+
+    /** The gate is closed already, and the pump is at 0. */
+    static void openAtTide(FloatingDock dock) {
+        while (Math.abs(dock.level() - dock.seaLevel(dock.hour() % 12)) > 20) {
+            dock.pass(1);
+        }
+        dock.setGate(true);
+    }
+
+    /** At this hour, with the gate closed and the pump at 0; the level is 100. */
+    static FloatingDock atHour(int hour) {
+        FloatingDock dock = new FloatingDock();
+        dock.setGate(false);
+        passUntil(dock, hour);
+        return dock;
+    }
+
+    static void passUntil(FloatingDock dock, int hour) {
+        while (dock.hour() < hour) {
+            dock.pass(Math.min(48, hour - dock.hour()));
+        }
+    }
+
     /** Adds ships of these lengths, with draught 20 and dirt 10 times their id. */
     static FloatingDock withShips(int... lengths) {
         FloatingDock dock = new FloatingDock();
