@@ -99,6 +99,14 @@ final class BillBoundaries {
         sums("without the first and the last", dock, 54, 18);
     }
 
+    static void promise41_0AtFirstAndWhenAllIsPaid() {
+        Check.that("new", new FloatingDock().billTotalByAccount(), 0);
+        FloatingDock dock = withBill(2);
+        Check.that("charged", dock.billTotalByAccount(), 2);
+        dock.pay(0, 2);
+        Check.that("paid", dock.billTotalByAccount(), 0);
+    }
+
     static void promise41_alsoAfterARemoval() {
         FloatingDock dock = withBill(10);
         dock.pay(0, 10);

@@ -226,6 +226,25 @@ final class BlockBoundaries {
         Check.fails("no ships", MISSING, () -> new FloatingDock().blocksBeneathByBlocks(0));
     }
 
+    static void promise30_0OutsideTheDock() {
+        FloatingDock dock = Docks.withBlocks(0, 1, 2);
+        Docks.addShips(dock, 10);
+        Check.that("never entered", dock.blocksBeneathByBlocks(0), 0);
+        dock.enter(0, 0);
+        dock.leave(0);
+        Check.that("has left", dock.blocksBeneathByBlocks(0), 0);
+    }
+
+    static void promise30_fromItsFirstToItsLastMetre() {
+        for (int block = 18; block <= 31; block++) {
+            FloatingDock dock = Docks.withBlocks(block);
+            Docks.addShips(dock, 10);
+            dock.enter(0, 20);
+            Check.that("block at " + block, dock.blocksBeneathByBlocks(0),
+                    block >= 20 && block <= 29 ? 1 : 0);
+        }
+    }
+
     static void promise30_sameAsBlocksBeneathAtEachPosition() {
         for (int position = 0; position <= 50; position++) {
             FloatingDock dock = Docks.withBlocks(0, 9, 10, 11, 19, 30, 31, 40, 50, 58, 59);
@@ -343,6 +362,36 @@ final class BlockBoundaries {
         Check.range(1, 60, ARGUMENT, length -> dock.firstGapByShips(length));
     }
 
+    static void promise33_noSuchPosition() {
+        FloatingDock dock = Docks.withShips(10);
+        Check.that("60", dock.firstGapByShips(60), 0);
+        dock.enter(0, 50);
+        Check.that("50", dock.firstGapByShips(50), 0);
+        Check.fails("51", MISSING, () -> dock.firstGapByShips(51));
+        dock.leave(0);
+        dock.enter(0, 0);
+        Check.that("50 behind it", dock.firstGapByShips(50), 10);
+        Check.fails("51 behind it", MISSING, () -> dock.firstGapByShips(51));
+    }
+
+    static void promise33_theLastPosition() {
+        FloatingDock dock = Docks.withShips(30, 29);
+        dock.enter(0, 0);
+        dock.enter(1, 30);
+        Check.that("1", dock.firstGapByShips(1), 59);
+        Check.fails("2", MISSING, () -> dock.firstGapByShips(2));
+    }
+
+    static void promise33_orderOfExceptions() {
+        FloatingDock dock = Docks.withShips(30, 30);
+        dock.enter(0, 0);
+        dock.enter(1, 30);
+        Check.fails("0", ARGUMENT, () -> dock.firstGapByShips(0));
+        Check.fails("1", MISSING, () -> dock.firstGapByShips(1));
+        Check.fails("60", MISSING, () -> dock.firstGapByShips(60));
+        Check.fails("61", ARGUMENT, () -> dock.firstGapByShips(61));
+    }
+
     /** The ships lie in the dock in another order than that of their ids. */
     static void promise33_sameAsFirstGapWithEightShips() {
         FloatingDock dock = Docks.withShips(5, 5, 5, 5, 5, 5, 5, 5);
@@ -367,6 +416,17 @@ final class BlockBoundaries {
         Check.that("none", dock.freeMetres(), 0);
         dock.leave(0);
         Check.that("half again", dock.freeMetres(), 30);
+    }
+
+    static void promise34_eightShips() {
+        FloatingDock dock = Docks.withShips(5, 6, 7, 8, 5, 6, 7, 8);
+        int free = 60;
+        for (int ship = 0; ship < 8; ship++) {
+            Check.that(ship + " in the dock", dock.freeMetres(), free);
+            dock.enter(ship, 60 - free);
+            free -= 5 + ship % 4;
+        }
+        Check.that("8 in the dock", dock.freeMetres(), 8);
     }
 
     // promises 35 to 37
@@ -427,6 +487,58 @@ final class BlockBoundaries {
         fitting("61 metres", Docks.withShips(7, 7, 7, 7, 7, 7, 7, 12), 7, 54);
     }
 
+    /** Seven gaps of 1 metre and one of 18 behind them. */
+    static void promise35_asManyGapsAsCanBe() {
+        FloatingDock dock = Docks.withShips(5, 5, 5, 5, 5, 5, 5, 18);
+        for (int ship = 0; ship < 7; ship++) {
+            dock.enter(ship, 1 + 6 * ship);
+        }
+        fitting("just fits", dock, 1, 18);
+        FloatingDock wide = Docks.withShips(5, 5, 5, 5, 5, 5, 5, 19);
+        for (int ship = 0; ship < 7; ship++) {
+            wide.enter(ship, 1 + 6 * ship);
+        }
+        fitting("1 too long", wide, 0, 0);
+        dock.enter(7, 42);
+        fitting("none waits", dock, 0, 0);
+    }
+
+    /** Nothing of an earlier answer may be left: each is asked before and after a change. */
+    static void promise35_askedAgain() {
+        FloatingDock dock = Docks.withShips(30, 30, 10);
+        Check.that("two of three", dock.mostFitting(), 2);
+        dock.enter(0, 0);
+        Check.that("one of two", dock.mostFitting(), 1);
+        dock.enter(1, 30);
+        Check.that("no gap", dock.mostFitting(), 0);
+        dock.leave(0);
+        Check.that("both", dock.mostFitting(), 1);
+    }
+
+    static void promise36_askedAgain() {
+        FloatingDock dock = Docks.withShips(30, 30, 10);
+        Check.that("two of three", dock.mostFittingByTable(), 2);
+        dock.enter(0, 0);
+        Check.that("one of two", dock.mostFittingByTable(), 1);
+        dock.enter(1, 30);
+        Check.that("no gap", dock.mostFittingByTable(), 0);
+        dock.leave(0);
+        Check.that("both", dock.mostFittingByTable(), 1);
+    }
+
+    static void promise37_askedAgain() {
+        FloatingDock dock = Docks.withShips(30, 30, 10);
+        Check.that("two of three", dock.mostFittingMetres(), 60);
+        dock.enter(0, 0);
+        Check.that("one of two", dock.mostFittingMetres(), 30);
+        dock.enter(1, 30);
+        Check.that("no gap", dock.mostFittingMetres(), 0);
+        dock.leave(0);
+        dock.leave(1);
+        dock.enter(2, 25);
+        Check.that("none of 30 beside it", dock.mostFittingMetres(), 0);
+    }
+
     static void promise35_alsoWithTheGateClosed() {
         FloatingDock dock = Docks.withShips(10);
         dock.setGate(false);
@@ -435,6 +547,22 @@ final class BlockBoundaries {
 
     static void promise36_noShips() {
         Check.that("none", new FloatingDock().mostFittingByTable(), 0);
+    }
+
+    static void promise36_draughtAtMostTheLevelMinus2() {
+        FloatingDock dock = Docks.atLevel(62);
+        dock.addShip(10, 60, 0);
+        dock.addShip(10, 61, 0);
+        Check.that("one of two", dock.mostFittingByTable(), 1);
+    }
+
+    static void promise36_justFittingAndNotFitting() {
+        Check.that("60 of 60", Docks.withShips(30, 30).mostFittingByTable(), 2);
+        Check.that("65 of 60", Docks.withShips(30, 30, 5).mostFittingByTable(), 2);
+        Check.that("60 in eight",
+                Docks.withShips(7, 7, 7, 7, 7, 7, 7, 11).mostFittingByTable(), 8);
+        Check.that("61 in eight",
+                Docks.withShips(7, 7, 7, 7, 7, 7, 7, 12).mostFittingByTable(), 7);
     }
 
     /** Gaps of 10 and 11: the 11 must go into the second for the two of 5 to fit. */
@@ -447,6 +575,20 @@ final class BlockBoundaries {
 
     static void promise37_noShips() {
         Check.that("none", new FloatingDock().mostFittingMetres(), 0);
+    }
+
+    static void promise37_draughtAtMostTheLevelMinus2() {
+        FloatingDock dock = Docks.atLevel(62);
+        dock.addShip(10, 60, 0);
+        dock.addShip(11, 61, 0);
+        Check.that("one of two", dock.mostFittingMetres(), 10);
+    }
+
+    static void promise37_from0To60() {
+        Check.that("all", Docks.withShips(30, 30).mostFittingMetres(), 60);
+        Check.that("1 less", Docks.withShips(30, 29).mostFittingMetres(), 59);
+        Check.that("the least", Docks.withShips(5).mostFittingMetres(), 5);
+        Check.that("65 do not fit", Docks.withShips(30, 30, 5).mostFittingMetres(), 60);
     }
 
     static void promise37_fewerShipsMayTakeMoreMetres() {

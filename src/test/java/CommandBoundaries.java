@@ -344,8 +344,8 @@ final class CommandBoundaries {
         error("pump - 1", 6);
         error("pump -1234", 9);
         error("pump +1", 5);
-        String[] starts = {"ship ", "ship 1 ", "ship 1 1 ", "enter ", "enter 1@", "leave ", "clean ",
-            "stop ", "pass ", "block ", "unblock ", "pay ", "pay 1+"};
+        String[] starts = {"ship ", "ship 1 ", "ship 1 1 ", "enter ", "enter 1@", "leave ",
+            "clean ", "stop ", "pass ", "block ", "unblock ", "pay ", "pay 1+"};
         for (String start : starts) {
             error(start + "-1", start.length());
         }

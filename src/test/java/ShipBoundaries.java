@@ -64,14 +64,6 @@ final class ShipBoundaries {
         Check.range(0, 99, ARGUMENT, dirt -> new FloatingDock().addShip(10, 40, dirt));
     }
 
-    static void promise2_dirtIsKeptFrom0To99() {
-        FloatingDock dock = new FloatingDock();
-        dock.addShip(5, 5, 0);
-        dock.addShip(5, 5, 99);
-        Check.that("the least", dock.dirtOf(0), 0);
-        Check.that("the most", dock.dirtOf(1), 99);
-    }
-
     static void promise2_notIfThereAre8Ships() {
         FloatingDock dock = Docks.withShips(5, 5, 5, 5, 5, 5, 5);
         Check.that("the eighth", dock.addShip(5, 5, 5), 7);
@@ -100,6 +92,33 @@ final class ShipBoundaries {
         FloatingDock dock = Docks.withShips(10);
         Check.that("bill", dock.billOf(0), 0);
         Check.fails("nothing to pay", STATE, () -> dock.pay(0, 1));
+    }
+
+    /** The ship that is gone was in the dock, was cleaned, and had all that a ship can have. */
+    static void promise2_hasNothingOfAShipThatIsGone() {
+        FloatingDock dock = Docks.withBlocks(10, 11);
+        dock.save();
+        Docks.addShips(dock, 10, 10, 10);
+        dock.enter(0, 0);
+        dock.enter(1, 10);
+        dock.setCleaning(0, true);
+        dock.setCleaning(1, true);
+        Docks.drain(dock);
+        Check.that("0 before", Docks.bill(dock, 0), "#0:6/0!1_");
+        Check.that("1 before", Docks.bill(dock, 1), "#1:17/7_");
+        dock.restore();
+        Check.that("all is free", dock.freeMetres(), 60);
+        Check.that("share", dock.takenShare(), 0.0f);
+        Check.that("no bills", dock.billTotal(), 0);
+        for (int id = 0; id < 3; id++) {
+            dock.addShip(6, 20, 5);
+            Check.that(id + " now", Docks.bill(dock, id), "#" + id + ":0/5");
+            Check.that(id + ", hours afloat", dock.hoursAfloat(id), 0);
+            Check.that(id + ", damage", dock.damageOf(id), 0);
+            Check.that(id + ", in the dock", dock.isInDock(id), false);
+            Check.that(id + ", enters", dock.enter(id, 6 * id), id + 1);
+            Check.that(id + ", is cleaned", dock.setCleaning(id, false), false);
+        }
     }
 
     static void promise2_orderOfExceptions() {
@@ -389,6 +408,14 @@ final class ShipBoundaries {
     static void promise11_noSuchShip() {
         FloatingDock dock = oneInOneOutside();
         noSuchShip(id -> dock.dirtOf(id), dock);
+    }
+
+    static void promise11_dirtFrom0To99() {
+        FloatingDock dock = new FloatingDock();
+        dock.addShip(5, 5, 0);
+        dock.addShip(5, 5, 99);
+        Check.that("the least", dock.dirtOf(0), 0);
+        Check.that("the most", dock.dirtOf(1), 99);
     }
 
     static void promise12_noSuchShip() {

@@ -259,6 +259,46 @@ final class StateBoundaries {
         }
     }
 
+    /** Two ships side by side at 0 and 10, each on a block, with bills of 2 coins. */
+    private static FloatingDock spoiled(String path, int number) {
+        FloatingDock dock = Docks.withBlocks(3, 13);
+        Docks.addShips(dock, 10, 10);
+        dock.enter(0, 0);
+        dock.enter(1, 10);
+        dock.pass(1);
+        Spoiler.put(dock, path, number);
+        return dock;
+    }
+
+    static void promise53_falseIfTwoShipsOverlap() {
+        String path = "now.ships.rows.1.position";
+        Check.that("side by side", spoiled(path, 10).isConsistent(), true);
+        Check.that("by a metre", spoiled(path, 9).isConsistent(), false);
+        Check.that("wholly", spoiled(path, 0).isConsistent(), false);
+    }
+
+    static void promise53_falseIfTheBillsDiffer() {
+        Check.that("4 charged", spoiled("now.charged", 4).isConsistent(), true);
+        Check.that("5 charged", spoiled("now.charged", 5).isConsistent(), false);
+        Check.that("3 charged", spoiled("now.charged", 3).isConsistent(), false);
+        Check.that("1 paid", spoiled("now.paid", 1).isConsistent(), false);
+        Check.that("another bill", spoiled("now.ships.rows.1.bill", 3).isConsistent(), false);
+    }
+
+    /** Two blocks at one position count twice block by block, but once metre by metre. */
+    static void promise53_falseIfTheBlocksBeneathDiffer() {
+        Check.that("beneath the last ship too",
+                spoiled("now.blocks.positions.0", 13).isConsistent(), false);
+        Check.that("beneath the first ship",
+                spoiled("now.blocks.positions.1", 3).isConsistent(), false);
+        Check.that("at two positions", spoiled("now.blocks.positions.1", 4).isConsistent(), true);
+    }
+
+    static void promise53_falseIfTheSeaDiffers() {
+        Check.that("an hour before all tides", spoiled("now.hours", -1).isConsistent(), false);
+        Check.that("the first hour", spoiled("now.hours", 0).isConsistent(), true);
+    }
+
     // promises 54 to 56
 
     static void promise54_noChangeToUndo() {

@@ -65,6 +65,18 @@ final class WaterBoundaries {
         }
     }
 
+    /** The level is put there by force, as no call brings an open dock so far from the sea. */
+    static void promise16_evenIfItIsOpen() {
+        for (int level : new int[] {0, 79, 80, 100, 120, 121, 200}) {
+            FloatingDock dock = new FloatingDock();
+            Spoiler.put(dock, "now.waterLevel", level);
+            Object due = level >= 80 && level <= 120 ? true : Check.thrown(UNSUPPORTED);
+            Check.that("level " + level, Check.outcome(() -> dock.setGate(true)), due);
+            Check.that("level " + level + ", still open", dock.isGateOpen(), true);
+            Check.that("level " + level + ", closes", dock.setGate(false), true);
+        }
+    }
+
     static void promise16_returnsWhetherItWasOpenBefore() {
         FloatingDock dock = new FloatingDock();
         Check.that("open an open one", dock.setGate(true), true);
@@ -335,6 +347,18 @@ final class WaterBoundaries {
         Check.that("the last one", dock.hoursUntilAfloat(0), 1);
         dock.pass(1);
         Check.that("none", dock.hoursUntilAfloat(0), 0);
+    }
+
+    /** The draught is made greater by force, as that of no ship lets it wait for so long. */
+    static void promise25_just96Hours() {
+        FloatingDock dock = stranded(80);
+        dock.setPump(1);
+        Spoiler.put(dock, "now.ships.rows.0.draught", 95);
+        Check.that("95 hours", dock.hoursUntilAfloat(0), 95);
+        Spoiler.put(dock, "now.ships.rows.0.draught", 96);
+        Check.that("96 hours", dock.hoursUntilAfloat(0), 96);
+        Spoiler.put(dock, "now.ships.rows.0.draught", 97);
+        Check.fails("97 hours", STATE, () -> dock.hoursUntilAfloat(0));
     }
 
     static void promise25_notWithin96Hours() {
