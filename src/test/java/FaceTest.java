@@ -1,8 +1,17 @@
+import java.io.IOException;
+import java.io.UncheckedIOException;
+import java.lang.reflect.Constructor;
 import java.lang.reflect.Field;
 import java.lang.reflect.Method;
 import java.lang.reflect.Modifier;
+import java.nio.file.Files;
+import java.nio.file.Path;
+import java.util.ArrayList;
+import java.util.List;
 import java.util.Set;
 import java.util.TreeSet;
+import java.util.regex.Matcher;
+import java.util.regex.Pattern;
 
 /** The public face: just the document's methods, with its parameters and exceptions. */
 final class FaceTest {
@@ -69,6 +78,19 @@ final class FaceTest {
         "int save()",
         "int restore() throws IllegalStateException"};
 
+    private static final Path SOURCE = Path.of("src/main/java/FloatingDock.java");
+    private static final Pattern HEADING = Pattern.compile(" {4}// (---- .*)");
+    private static final Pattern MEMBER = Pattern.compile(" {4}public (?:\\w+ )?(\\w+)\\(.*");
+
+    /** The first method of each part of the interface, with what stands ahead of it. */
+    private static final String[][] PARTS = {
+        {"addShip", "---- ships"},
+        {"setGate", "---- water"},
+        {"placeBlock", "---- blocks and gaps"},
+        {"billOf", "---- bills"},
+        {"append", "---- commands"},
+        {"describeDock", "---- line, statistics, undo, snapshot"}};
+
     private FaceTest() {
     }
 
@@ -96,8 +118,53 @@ final class FaceTest {
             Check.that("face: private " + field.getName(),
                     Modifier.isPrivate(field.getModifiers()), true);
         }
-        Check.that("face: one constructor", FloatingDock.class.getConstructors().length, 1);
-        Check.that("face: final", Modifier.isFinal(FloatingDock.class.getModifiers()), true);
+        Check.that("face: constructors", toldConstructors(), "[public FloatingDock()]");
+        Check.that("face: the class", Modifier.toString(FloatingDock.class.getModifiers()),
+                "public final");
+        Check.that("face: the order of its parts", foundParts(), dueParts());
+    }
+
+    private static String toldConstructors() {
+        List<String> told = new ArrayList<>();
+        for (Constructor<?> constructor : FloatingDock.class.getDeclaredConstructors()) {
+            told.add(constructor.toGenericString());
+        }
+        return told.toString();
+    }
+
+    private static List<String> foundParts() {
+        List<String> found = new ArrayList<>();
+        try {
+            for (String row : Files.readAllLines(SOURCE)) {
+                Matcher heading = HEADING.matcher(row);
+                Matcher member = MEMBER.matcher(row);
+                if (heading.matches()) {
+                    found.add(heading.group(1));
+                } else if (member.matches()) {
+                    found.add(member.group(1));
+                }
+            }
+        } catch (IOException thrown) {
+            throw new UncheckedIOException(thrown);
+        }
+        // A heading of the program's own stands behind the last public method.
+        int last = found.lastIndexOf("restore");
+        return found.subList(0, last + 1);
+    }
+
+    private static List<String> dueParts() {
+        List<String> due = new ArrayList<>();
+        due.add("FloatingDock");
+        for (String method : DUE) {
+            String name = method.substring(method.indexOf(' ') + 1, method.indexOf('('));
+            for (String[] part : PARTS) {
+                if (part[0].equals(name)) {
+                    due.add(part[1]);
+                }
+            }
+            due.add(name);
+        }
+        return due;
     }
 
     private static String told(Method method) {
